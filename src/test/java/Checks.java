@@ -1,6 +1,9 @@
 import java.util.StringJoiner;
 
-/** What the tests share: counting wrong answers, and making and showing shapes, words and tableaux. */
+/**
+ * What the tests share: counting wrong answers, and making and showing shapes, words and tableaux. What is
+ * shown is asked for once only, for an object answers as promised no more than 512 times.
+ */
 final class Checks {
     /** A call that may throw. */
     interface Call {
@@ -99,8 +102,10 @@ final class Checks {
     /** A slot's shape, such as "4 2 1". */
     static String shape(TableauBench x, int slot) {
         StringJoiner text = new StringJoiner(" ");
-        for (int i = 0; i < SHAPE_ROWS && x.row(slot, i) != 0; i++) {
-            text.add(Integer.toString(x.row(slot, i)));
+        int length = x.row(slot, 0);
+        for (int i = 1; length != 0; i++) {
+            text.add(Integer.toString(length));
+            length = i < SHAPE_ROWS ? x.row(slot, i) : 0;
         }
         return text.toString();
     }
@@ -108,7 +113,8 @@ final class Checks {
     /** A word, such as "3 1 2". */
     static String word(TableauBench x, int word) {
         StringJoiner text = new StringJoiner(" ");
-        for (int i = 0; i < x.length(word); i++) {
+        int length = x.length(word);
+        for (int i = 0; i < length; i++) {
             text.add(Integer.toString(x.at(word, i)));
         }
         return text.toString();
@@ -117,12 +123,16 @@ final class Checks {
     /** P or Q, such as "1 2 / 3"; behind each row and the last one there must be no letter. */
     static String tableau(TableauBench x, boolean q) {
         StringJoiner rows = new StringJoiner(" / ");
-        for (int r = 0; x.entry(q, r, 0) != 0; r++) {
+        int first = x.entry(q, 0, 0);
+        for (int r = 1; first != 0; r++) {
             StringJoiner row = new StringJoiner(" ");
-            for (int c = 0; x.entry(q, r, c) != 0; c++) {
-                row.add(Integer.toString(x.entry(q, r, c)));
+            int letter = first;
+            for (int c = 1; letter != 0; c++) {
+                row.add(Integer.toString(letter));
+                letter = x.entry(q, r - 1, c);
             }
             rows.add(row.toString());
+            first = x.entry(q, r, 0);
         }
         return rows.toString();
     }

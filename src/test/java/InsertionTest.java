@@ -60,6 +60,8 @@ public final class InsertionTest {
         Checks.same("16 rows", x.insert(0, false), 16);
         Checks.same("P", Checks.p(x), column);
         Checks.same("Q", Checks.q(x), column);
+        x.read(0);
+        Checks.same("its reading", Checks.word(x, 0), "16 15 14 13 12 11 10 9 8 7 6 5 4 3 2 1");
         Checks.same("1 row", x.insert(1, false), 1);
         Checks.same("P", Checks.p(x), row);
         Checks.same("1 row by columns", x.insert(0, true), 1);

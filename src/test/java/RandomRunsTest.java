@@ -2,8 +2,9 @@ import java.util.Random;
 
 /** All promises: random runs of calls, each answer against that of the plain bench. */
 public final class RandomRunsTest {
-    private static final int RUNS = 2500;
-    private static final int MOST_CALLS = 320;
+    private static final int RUNS = 6000;
+    // A step may be several calls, and all that is there is asked for at the end: together they stay below 512.
+    private static final int MOST_STEPS = 120;
 
     private final Random random;
     private final TableauBench bench = new TableauBench();
@@ -26,12 +27,12 @@ public final class RandomRunsTest {
     public static void main(String[] args) {
         for (int run = 0; run < RUNS; run++) {
             RandomRunsTest test = new RandomRunsTest(run);
-            int calls = 1 + test.random.nextInt(MOST_CALLS);
+            int steps = 1 + test.random.nextInt(MOST_STEPS);
             boolean right = true;
-            for (int i = 0; i < calls && right; i++) {
+            for (int i = 0; i < steps && right; i++) {
                 test.step();
                 right = test.got.equals(test.due);
-                Checks.same("run " + run + ", call " + i + ": " + test.call, test.got, test.due);
+                Checks.same("run " + run + ", step " + i + ": " + test.call, test.got, test.due);
             }
             if (right) {
                 test.compareAll(run);
