@@ -232,8 +232,8 @@ public final class RandomRunsTest {
                 Checks.same(what + "at", bench.at(w, i), plain.at(w, i));
             }
         }
-        for (int r = 0; r < 5; r++) {
-            for (int c = 0; c < 5; c++) {
+        for (int r = 0; r < 16; r++) {
+            for (int c = 0; c < (r < 5 ? 5 : 1); c++) {
                 Checks.same(what + "P", bench.entry(false, r, c), plain.entry(false, r, c));
                 Checks.same(what + "Q", bench.entry(true, r, c), plain.entry(true, r, c));
             }

@@ -20,6 +20,7 @@ public final class SlidingTest {
         draws();
         drawsLargest();
         drawsEvenly();
+        nothingOfTallTableauxStays();
         Checks.finish();
     }
 
@@ -246,6 +247,40 @@ public final class SlidingTest {
                     Checks.same("entry", x.entry(false, r, c), plain.entry(false, r, c));
                 }
             }
+        }
+    }
+
+    /** An insertion can make 16 rows, a shape has 8 at the most: the lower ones must be gone with the old P. */
+    private static void nothingOfTallTableauxStays() {
+        TableauBench x = new TableauBench();
+        for (int v = 16; v >= 1; v--) {
+            x.letter(0, v);
+        }
+        Checks.setWord(x, 1, 7, 7);
+        Checks.setShape(x, 0, 1);
+        Checks.setShape(x, 1, 2, 1);
+        x.insert(0, false);
+        x.draw(1, 5);
+        noLowerRows(x, 2);
+        x.turn();
+        noLowerRows(x, 2);
+        x.insert(0, false);
+        x.rectify(0, 1, 1, 0);
+        noLowerRows(x, 1);
+        x.insert(0, false);
+        x.recover(0);
+        x.rectify(0, 1, 1, 1);
+        noLowerRows(x, 1);
+        x.equivalent();
+        x.rectify(0, 1, 1, 2);
+        noLowerRows(x, 1);
+        x.read(0);
+        Checks.same("the reading then", Checks.word(x, 0), "7 7");
+    }
+
+    private static void noLowerRows(TableauBench x, int from) {
+        for (int r = from; r < 17; r++) {
+            Checks.same("P at (" + r + ", 0)", x.entry(false, r, 0), 0);
         }
     }
 
