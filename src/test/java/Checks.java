@@ -1,4 +1,5 @@
 import java.util.StringJoiner;
+import java.util.function.BooleanSupplier;
 
 /**
  * What the tests share: counting wrong answers, and making and showing shapes, words and tableaux. What is
@@ -16,6 +17,7 @@ final class Checks {
 
     private static int asked = 0;
     private static int wrong = 0;
+    private static String sentence = "";
 
     private Checks() {
     }
@@ -53,10 +55,28 @@ final class Checks {
         }
     }
 
+    /** The test of one sentence of the document: what is wrong in it is told with the sentence. */
+    static void sentence(String words, Call test) {
+        sentence = "\"" + words + "\": ";
+        try {
+            test.run();
+        } catch (RuntimeException e) {
+            tell("the test ended with " + e);
+        }
+        sentence = "";
+    }
+
     /** As fails, and the call must leave all that can be seen as it was. */
     static void refuses(String what, TableauBench x, Class<? extends RuntimeException> due, Call call) {
         String before = all(x);
         fails(what, due, call);
+        same("what is there after " + what, all(x), before);
+    }
+
+    /** A call that must answer false, and leave all that can be seen as it was. */
+    static void declines(String what, TableauBench x, BooleanSupplier call) {
+        String before = all(x);
+        same(what, call.getAsBoolean(), false);
         same("what is there after " + what, all(x), before);
     }
 
@@ -69,7 +89,7 @@ final class Checks {
     private static void tell(String text) {
         wrong++;
         if (wrong <= 50) {
-            System.out.println(text);
+            System.out.println(sentence + text);
         }
     }
 
