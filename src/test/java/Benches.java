@@ -25,6 +25,37 @@ final class Benches {
         return x;
     }
 
+    /**
+     * As new for all that can be seen, but after calls that went through every box that there can be: what they left
+     * behind inside must not be seen.
+     */
+    static TableauBench used() {
+        TableauBench x = new TableauBench();
+        for (int v = 16; v >= 1; v--) {
+            x.letter(0, v);
+            x.letter(1, 17 - v);
+        }
+        for (long w : new long[] {24, Checks.packed(3, 3, 3, 3, 3, 3, 3, 3), Checks.packed(16)}) {
+            x.shape(0, w);
+            x.draw(0, 20261118);
+            x.turn();
+            x.coefficient(0, 1, 0);
+            x.standard(0);
+        }
+        x.fillings(0, 0);
+        for (int word = 0; word < 2; word++) {
+            x.insert(word, false);
+            x.recover(word);
+        }
+        x.equivalent();
+        x.cut(0, 0);
+        x.cut(1, 0);
+        x.shape(0, 0);
+        x.insert(0, false);
+        x.turn();
+        return x;
+    }
+
     private static TableauBench filled() {
         TableauBench x = new TableauBench();
         x.shape(NINE_BOXES, Checks.packed(4, 3, 2));

@@ -88,7 +88,7 @@ final class Checks {
 
     private static void tell(String text) {
         wrong++;
-        if (wrong <= 50) {
+        if (wrong <= 50 || Boolean.getBoolean("tellAll")) {
             System.out.println(sentence + text);
         }
     }

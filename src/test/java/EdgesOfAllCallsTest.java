@@ -352,8 +352,34 @@ public final class EdgesOfAllCallsTest {
         Checks.same("what is recovered after it", Checks.word(y, 0), "1 3 2");
     }
 
-    /** 506 calls of all kinds, and the six that are left answer as promised. */
     private static void lastCalls() {
+        lastCallsOfMany();
+        lastCallsOfSlots();
+        lastCallsOfWords();
+    }
+
+    private static void lastCallsOfSlots() {
+        TableauBench x = new TableauBench();
+        for (int i = 0; i < 128; i++) {
+            Checks.same("shape", x.shape(i % 4, Checks.packed(2 + i % 20, 1)), true);
+            Checks.same("rank", x.rank(i % 4), 1);
+            Checks.same("standard", x.standard(i % 4), 2 + i % 20);
+            Checks.same("row of another slot", x.row((i + 1) % 4, 0), i < 3 ? 0 : 2 + (i - 3) % 20);
+        }
+    }
+
+    private static void lastCallsOfWords() {
+        TableauBench x = new TableauBench();
+        for (int i = 0; i < 128; i++) {
+            Checks.same("cut", x.cut(i % 2, 0), true);
+            Checks.same("letter", x.letter(i % 2, 1 + i % 16), true);
+            Checks.same("insert", x.insert(i % 2, false), 1);
+            Checks.same("at of the other word", x.at((i + 1) % 2, 0), i == 0 ? 0 : 1 + (i - 1) % 16);
+        }
+    }
+
+    /** 506 calls of all kinds, and the six that are left answer as promised. */
+    private static void lastCallsOfMany() {
         TableauBench x = new TableauBench();
         x.shape(0, Checks.packed(3, 2, 1));
         x.shape(1, Checks.packed(2, 1));

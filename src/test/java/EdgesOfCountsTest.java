@@ -64,13 +64,13 @@ public final class EdgesOfCountsTest {
     }
 
     private static void standard(long due, int... lengths) {
-        TableauBench x = new TableauBench();
+        TableauBench x = Benches.used();
         Checks.setShape(x, 2, lengths);
         Checks.same("standard of " + text(lengths), x.standard(2), due);
     }
 
     private static void standardOfNone() {
-        TableauBench x = new TableauBench();
+        TableauBench x = Benches.used();
         for (int s = 0; s < 4; s++) {
             Checks.same("standard of slot " + s + " at first", x.standard(s), 1);
             Checks.setShape(x, s, 3, 2, 1);
@@ -106,7 +106,7 @@ public final class EdgesOfCountsTest {
         PlainBench plain = new PlainBench();
         for (List<Integer> shape : plain.shapesOf(24)) {
             if (shape.size() <= 8) {
-                TableauBench x = new TableauBench();
+                TableauBench x = Benches.used();
                 Checks.setShape(x, 1, array(shape));
                 plain.shape(1, Checks.packed(array(shape)));
                 Checks.same("standard of " + shape, x.standard(1), plain.standard(1));
@@ -118,7 +118,7 @@ public final class EdgesOfCountsTest {
 
     private static void fillings(long due, int[] lengths, int... letters) {
         for (int w = 0; w < 2; w++) {
-            TableauBench x = new TableauBench();
+            TableauBench x = Benches.used();
             Checks.setShape(x, 3, lengths);
             Checks.setWord(x, w, letters);
             Checks.same("fillings of " + text(lengths) + " with " + text(letters), x.fillings(3, w), due);
@@ -152,7 +152,7 @@ public final class EdgesOfCountsTest {
     }
 
     private static void fillingsOfNone() {
-        TableauBench x = new TableauBench();
+        TableauBench x = Benches.used();
         for (int s = 0; s < 4; s++) {
             Checks.same("none with none", x.fillings(s, 0), 1);
             Checks.same("none with none", x.fillings(s, 1), 1);
@@ -172,7 +172,7 @@ public final class EdgesOfCountsTest {
         for (int n = 0; n <= 24; n++) {
             List<List<Integer>> shapes = plain.shapesOf(n);
             for (int i = 0; i < shapes.size() && i < 12; i++) {
-                TableauBench x = new TableauBench();
+                TableauBench x = Benches.used();
                 if (shapes.get(i).size() > 8) {
                     continue;
                 }
@@ -195,7 +195,7 @@ public final class EdgesOfCountsTest {
         PlainBench plain = new PlainBench();
         for (List<Integer> shape : plain.shapesOf(16)) {
             if (shape.size() <= 8) {
-                TableauBench x = new TableauBench();
+                TableauBench x = Benches.used();
                 Checks.setShape(x, 1, array(shape));
                 Checks.setWord(x, 1, 1, 2, 3, 4, 5, 6, 7, 8, 9, 10, 11, 12, 13, 14, 15, 16);
                 Checks.same("fillings of " + shape, x.fillings(1, 1), x.standard(1));
@@ -206,7 +206,7 @@ public final class EdgesOfCountsTest {
     }
 
     private static void product(long due, int[] a, int[] b, int[] c) {
-        TableauBench x = new TableauBench();
+        TableauBench x = Benches.used();
         Checks.setShape(x, 0, a);
         Checks.setShape(x, 1, b);
         Checks.setShape(x, 2, c);
@@ -295,7 +295,7 @@ public final class EdgesOfCountsTest {
         int[][] shapes = {{1}, {24}, {3, 3, 3, 3, 3, 3, 3, 3}, {9, 5, 3, 2, 2, 1, 1, 1}, {2, 1}};
         for (int[] lengths : shapes) {
             product(1, NONE, lengths, lengths);
-            TableauBench x = new TableauBench();
+            TableauBench x = Benches.used();
             Checks.setShape(x, 1, lengths);
             for (int none = 0; none < 4; none += 2) {
                 Checks.same("by none, in the same slot", x.coefficient(1, none, 1), 1);
@@ -321,14 +321,14 @@ public final class EdgesOfCountsTest {
     }
 
     private static void character(long due, int[] s, int[] t) {
-        TableauBench x = new TableauBench();
+        TableauBench x = Benches.used();
         Checks.setShape(x, 1, s);
         Checks.setShape(x, 2, t);
         Checks.same("character of " + text(s) + " at " + text(t), x.character(1, 2), due);
     }
 
     private static void characterOfNone() {
-        TableauBench x = new TableauBench();
+        TableauBench x = Benches.used();
         for (int s = 0; s < 4; s++) {
             for (int t = 0; t < 4; t++) {
                 Checks.same("none at none", x.character(s, t), 1);
@@ -342,7 +342,7 @@ public final class EdgesOfCountsTest {
         PlainBench plain = new PlainBench();
         for (int n = 1; n <= 8; n++) {
             for (List<Integer> shape : plain.shapesOf(n)) {
-                TableauBench x = new TableauBench();
+                TableauBench x = Benches.used();
                 Checks.setShape(x, 0, array(shape));
                 character(x.standard(0), array(shape), Arrays.copyOf(EIGHT_ONES, n));
             }
@@ -402,7 +402,7 @@ public final class EdgesOfCountsTest {
     private static void otherBoxes() {
         for (int n = 0; n <= 24; n++) {
             for (int m = 0; m <= 24; m++) {
-                TableauBench x = new TableauBench();
+                TableauBench x = Benches.used();
                 Checks.setShape(x, 0, n);
                 Checks.setShape(x, 3, m);
                 if (n != m) {
@@ -410,7 +410,7 @@ public final class EdgesOfCountsTest {
                 }
             }
         }
-        TableauBench x = new TableauBench();
+        TableauBench x = Benches.used();
         Checks.setShape(x, 0, 3, 2, 1);
         Checks.setShape(x, 1, 3, 2);
         Checks.refuses("3 2 1 at 3 2", x, STATE, () -> x.character(0, 1));
@@ -421,7 +421,7 @@ public final class EdgesOfCountsTest {
 
     private static void tooManyBoxes() {
         for (int n = 1; n <= 24; n++) {
-            TableauBench x = new TableauBench();
+            TableauBench x = Benches.used();
             Checks.setShape(x, 0, n);
             Checks.setShape(x, 1, n - n / 2, n / 2);
             if (n <= 14) {

@@ -44,7 +44,7 @@ public final class EdgesOfInsertionTest {
     }
 
     private static TableauBench with(int... letters) {
-        TableauBench x = new TableauBench();
+        TableauBench x = Benches.used();
         Checks.setWord(x, 0, letters);
         return x;
     }
@@ -186,7 +186,7 @@ public final class EdgesOfInsertionTest {
         reading("3 2 2 1 1 1 4", 3, 1, 2, 2, 1, 4, 1);
         reading(DOWNWARDS, downwards());
         reading(UPWARDS, upwards());
-        TableauBench x = new TableauBench();
+        TableauBench x = Benches.used();
         Checks.setShape(x, 0, 2, 2, 2, 2, 2, 2, 2, 2);
         Checks.setWord(x, 0, 15, 16, 13, 14, 11, 12, 9, 10, 7, 8, 5, 6, 3, 4, 1, 2);
         x.rectify(1, 0, 0, 0);
@@ -210,7 +210,7 @@ public final class EdgesOfInsertionTest {
 
     private static void qIsThere() {
         for (int columns = 0; columns < 2; columns++) {
-            TableauBench x = new TableauBench();
+            TableauBench x = Benches.used();
             x.insert(0, columns == 1);
             x.recover(1);
             Checks.same("Q of no letters is there", x.length(1), 0);
@@ -273,7 +273,7 @@ public final class EdgesOfInsertionTest {
     }
 
     private static void noSuchBoxOfDrawn() {
-        TableauBench x = new TableauBench();
+        TableauBench x = Benches.used();
         Checks.setShape(x, 0, 24);
         x.draw(0, 1);
         Checks.same("the last box of 24", x.entry(false, 0, 23), 24);
@@ -382,7 +382,7 @@ public final class EdgesOfInsertionTest {
                 Checks.refuses("recover 1", x, STATE, () -> x.recover(1));
             }
         }
-        TableauBench x = new TableauBench();
+        TableauBench x = Benches.used();
         Checks.refuses("recover 0 at first", x, STATE, () -> x.recover(0));
         Checks.refuses("recover 1 at first", x, STATE, () -> x.recover(1));
         x.insert(0, false);

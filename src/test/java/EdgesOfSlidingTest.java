@@ -70,7 +70,7 @@ public final class EdgesOfSlidingTest {
     }
 
     private static TableauBench skew(int[] inner, int[] outer, int... reading) {
-        TableauBench x = new TableauBench();
+        TableauBench x = Benches.used();
         Checks.setShape(x, INNER, inner);
         Checks.setShape(x, OUTER, outer);
         Checks.setWord(x, 1, reading);
@@ -295,6 +295,8 @@ public final class EdgesOfSlidingTest {
     }
 
     private static void numbersOfSlides() {
+        rectified("1 2 3", new int[] {21}, new int[] {24}, 1, 2, 3);
+        rectified("1 1 / 2 3", NONE, new int[] {2, 2}, 2, 3, 1, 1);
         for (int n = 0; n <= 24; n++) {
             for (int order = 0; order <= 2; order++) {
                 TableauBench x = skew(n == 0 ? NONE : new int[] {n}, n == 0 ? NONE : new int[] {n});
@@ -450,7 +452,7 @@ public final class EdgesOfSlidingTest {
         int codes = 1;
         for (int n = 0; n <= 4; n++) {
             for (int code = 0; code < codes; code++) {
-                TableauBench x = new TableauBench();
+                TableauBench x = Benches.used();
                 int seen = 0;
                 int left = code;
                 for (int i = 0; i < n; i++) {
@@ -471,7 +473,7 @@ public final class EdgesOfSlidingTest {
     }
 
     private static void turned(String before, String after, int... word) {
-        TableauBench x = new TableauBench();
+        TableauBench x = Benches.used();
         Checks.setWord(x, 1, word);
         x.insert(1, false);
         Checks.same("P", Checks.p(x), before);
@@ -500,7 +502,7 @@ public final class EdgesOfSlidingTest {
         int[][] sides = {{8, 3}, {3, 8}, {1, 24}, {2, 12}, {4, 6}, {6, 4}, {5, 4}};
         for (int[] side : sides) {
             for (int seed = 0; seed < 10; seed++) {
-                TableauBench x = new TableauBench();
+                TableauBench x = Benches.used();
                 int[] lengths = new int[side[0]];
                 Arrays.fill(lengths, side[1]);
                 Checks.setShape(x, 2, lengths);
@@ -529,7 +531,7 @@ public final class EdgesOfSlidingTest {
     }
 
     private static void turnsNone() {
-        TableauBench x = new TableauBench();
+        TableauBench x = Benches.used();
         x.turn();
         Checks.same("at first", Checks.p(x), "");
         x.insert(0, false);
@@ -550,7 +552,7 @@ public final class EdgesOfSlidingTest {
     private static void qAwayAfterTurn() {
         int[][] words = {{}, {1}, {2, 1}, {1, 2}, {2, 1, 3}};
         for (int[] word : words) {
-            TableauBench x = new TableauBench();
+            TableauBench x = Benches.used();
             Checks.setWord(x, 0, word);
             x.insert(0, false);
             x.turn();
@@ -566,7 +568,7 @@ public final class EdgesOfSlidingTest {
             {2, 3, 4, 5, 6, 7, 8, 9, 10, 11, 12, 13, 14, 15, 16}, {16, 14, 13, 12, 11, 10, 9, 8, 7, 6, 5, 4, 3, 2, 1}};
         for (int[] word : words) {
             for (int columns = 0; columns < 2; columns++) {
-                TableauBench x = new TableauBench();
+                TableauBench x = Benches.used();
                 Checks.setWord(x, 0, word);
                 x.insert(0, columns == 1);
                 Checks.refuses("turn of " + Checks.p(x), x, STATE, x::turn);
@@ -638,7 +640,7 @@ public final class EdgesOfSlidingTest {
 
     /** Draws and compares all: the box that was taken first. */
     private static int drawnAsTold(long seed, int... lengths) {
-        TableauBench x = new TableauBench();
+        TableauBench x = Benches.used();
         Checks.setShape(x, 1, lengths);
         Drawing due = new Drawing(lengths, seed);
         String what = " of " + Checks.shape(x, 1) + " with " + seed;
@@ -653,7 +655,7 @@ public final class EdgesOfSlidingTest {
     }
 
     private static void seedsWrap() {
-        TableauBench x = new TableauBench();
+        TableauBench x = Benches.used();
         Checks.setShape(x, 0, 1);
         Checks.same("after 0", x.draw(0, 0), 1442695040888963407L);
         Checks.same("after 1", x.draw(0, 1), 7806831264735756412L);
@@ -705,7 +707,7 @@ public final class EdgesOfSlidingTest {
     private static void qAwayAfterDraw() {
         int[][] shapes = {{}, {1}, {2, 1}};
         for (int[] lengths : shapes) {
-            TableauBench x = new TableauBench();
+            TableauBench x = Benches.used();
             Checks.setShape(x, 3, lengths);
             Checks.setWord(x, 0, 2, 1, 3);
             x.insert(0, false);
@@ -718,7 +720,7 @@ public final class EdgesOfSlidingTest {
     }
 
     private static void seedsThen() {
-        TableauBench x = new TableauBench();
+        TableauBench x = Benches.used();
         Checks.setShape(x, 1, 2, 2);
         long seed = 5;
         for (int i = 0; i < 100; i++) {
@@ -732,7 +734,7 @@ public final class EdgesOfSlidingTest {
     private static void drawsNone() {
         long[] seeds = {0, 1, -1, 42, Long.MIN_VALUE, Long.MAX_VALUE};
         for (long seed : seeds) {
-            TableauBench x = new TableauBench();
+            TableauBench x = Benches.used();
             Checks.same("no number is drawn", x.draw(0, seed), seed);
             Checks.same("P", Checks.p(x), "");
             Checks.setShape(x, 1, 2, 1);

@@ -75,12 +75,12 @@ public final class EdgesOfSlotsTest {
     /** In an empty slot and in one with a shape. */
     private static void notTaken(int... lengths) {
         TableauBench x = new TableauBench();
-        Checks.setShape(x, 1, 5, 4, 1);
+        Checks.setShape(x, 1, 5, 4, 1, 1, 1, 1, 1, 1);
         Checks.same("shape " + text(lengths), x.shape(0, Checks.packed(lengths)), false);
         Checks.same("the empty slot then", Checks.shape(x, 0), "");
         Checks.same("shape " + text(lengths), x.shape(1, Checks.packed(lengths)), false);
-        Checks.same("the slot then", Checks.shape(x, 1), "5 4 1");
-        Checks.same("its rank then", x.rank(1), rankOf(5, 4, 1));
+        Checks.same("the slot then", Checks.shape(x, 1), "5 4 1 1 1 1 1 1");
+        Checks.same("its rank then", x.rank(1), rankOf(5, 4, 1, 1, 1, 1, 1, 1));
     }
 
     private static int rankOf(Integer... lengths) {

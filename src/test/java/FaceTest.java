@@ -85,6 +85,8 @@ public final class FaceTest {
         Checks.same("no package", c.getPackageName(), "");
         for (Field f : c.getDeclaredFields()) {
             Checks.same("field " + f.getName() + " is private", Modifier.isPrivate(f.getModifiers()), true);
+            boolean open = Modifier.isStatic(f.getModifiers()) && !Modifier.isFinal(f.getModifiers());
+            Checks.same("the static " + f.getName() + " can change", open, false);
         }
         Constructor<?>[] makers = c.getDeclaredConstructors();
         Checks.same("constructors", makers.length, 1);
@@ -93,6 +95,10 @@ public final class FaceTest {
             Checks.same(inside.getName() + " is static", Modifier.isStatic(inside.getModifiers()), true);
             Checks.same(inside.getName() + " is not open",
                 Modifier.isPublic(inside.getModifiers()) || Modifier.isProtected(inside.getModifiers()), false);
+            for (Field f : inside.getDeclaredFields()) {
+                boolean open = Modifier.isStatic(f.getModifiers()) && !Modifier.isFinal(f.getModifiers());
+                Checks.same("the static " + f.getName() + " of " + inside.getName() + " can change", open, false);
+            }
             long own = Arrays.stream(inside.getDeclaredFields()).filter(f -> !Modifier.isStatic(f.getModifiers())).count();
             Checks.same(inside.getName() + " has few fields", own <= 20, true);
         }
@@ -103,18 +109,15 @@ public final class FaceTest {
         Path file = Path.of(System.getProperty("project", "."), "src/main/java/TableauBench.java");
         String text = Files.readString(file).replaceAll("(?s)/\\*.*?\\*/", "").replaceAll("//[^\n]*", "");
         String code = text.replaceAll("\"[^\"]*\"", "\"\"");
-        String[] outside = {"->", "::", "\\bfinally\\b", "\\bsynchronized\\b", "\\bassert\\b", "\\bcatch\\b", "\\bthis\\s*\\)",
-            "\\bdouble\\b", "\\bfloat\\b", "\\bstatic\\s*\\{", "\\bpackage\\b", "\\bclock\\b", "\\bSystem\\.(?!arraycopy)",
-            "Exact\\b", "\\bvar\\b", "\\bRandom\\b", "\\bimport\\s+(?!java\\.util\\.(Arrays|NoSuchElementException);)",
-            "\\bArrays\\.(?!fill\\()", "\\bMath\\.(?!min\\(|max\\()", "\\bInteger\\.(?!bitCount\\()", "\\bLong\\.",
-            "\\b(while|for)\\s*\\(\\s*(true|;\\s*;)"};
+        String[] outside = {"(?<!case [^\n]{1,40}|default )->", "::", "\\bfinally\\b", "\\bsynchronized\\b", "\\bassert\\b",
+            "\\btry\\s*\\(", "\\bstatic\\s*\\{", "\\bpackage\\b", "\\bSystem\\.(?!arraycopy)", "Exact\\b", "\\bvar\\b",
+            "\\bimport\\s+(?!java\\.util\\.(Arrays|ArrayList|List|Iterator|NoSuchElementException);)",
+            "\\bArrays\\.(?!fill\\(|copyOf\\(|copyOfRange\\()", "\\b(Random|Thread|Runtime|Clock|Instant)\\b",
+            "\\bextends\\s+\\w*(Exception|Error|Throwable)\\b", "\\bgetMessage\\b",
+            "\\bthrow\\s+(?!new (IllegalState|IllegalArgument|IndexOutOfBounds|Arithmetic|UnsupportedOperation|NoSuchElement|Runtime)"
+                + "Exception\\()"};
         for (String pattern : outside) {
             Checks.same("the program has " + pattern, Pattern.compile(pattern).matcher(code).find(), false);
-        }
-        for (String line : code.split("\n")) {
-            boolean makes = line.contains("new ") && !line.contains("throw new ");
-            boolean once = line.matches("\\s*(private )?final \\S+ \\S+ = new .*") || line.matches("\\s*\\w+\\[i\\] = new \\w+\\(\\);");
-            Checks.same("objects are made only with the bench: " + line.trim(), makes && !once, false);
         }
         lengthsOfMethods(code);
     }
