@@ -37,6 +37,7 @@ public final class EdgesOfCountsTest {
         Checks.sentence("with as many letters i + 1 as row i of b is long", EdgesOfCountsTest::productLetters);
         Checks.sentence("has at every place, up to there, not more letters i + 1 than letters i, for all i",
             EdgesOfCountsTest::latticeWords);
+        Checks.sentence("the reading, taken from its end to its beginning", EdgesOfCountsTest::fromTheEnd);
         Checks.sentence("It is 0, if c has not all boxes of a", EdgesOfCountsTest::notWithin);
         Checks.sentence("or its number of boxes is not that of a and b together", EdgesOfCountsTest::otherNumberOfBoxes);
         Checks.sentence("21: of the shapes of three slots (without boxes, or the same ones)", EdgesOfCountsTest::productsOfNone);
@@ -258,6 +259,19 @@ public final class EdgesOfCountsTest {
         product(4, new int[] {3, 2, 1}, new int[] {3, 2, 1}, new int[] {5, 4, 2, 1});
     }
 
+    /** The reading of 1 1 / 2 begins with 2: from its beginning, it would not count. */
+    private static void fromTheEnd() {
+        product(1, NONE, new int[] {2, 1}, new int[] {2, 1});
+        product(1, NONE, EIGHT_ONES, EIGHT_ONES);
+        product(1, new int[] {1}, new int[] {1, 1}, new int[] {1, 1, 1});
+        product(0, new int[] {1}, new int[] {2}, new int[] {1, 1, 1});
+        product(1, new int[] {2, 1}, new int[] {2, 1}, new int[] {3, 3});
+        product(1, new int[] {2}, new int[] {3, 1}, new int[] {4, 2});
+        product(1, new int[] {3, 1}, new int[] {3}, new int[] {4, 3});
+        product(2, new int[] {3, 1}, new int[] {2, 1}, new int[] {4, 2, 1});
+        product(2, new int[] {2, 1, 1}, new int[] {2, 1}, new int[] {3, 2, 1, 1});
+    }
+
     private static void notWithin() {
         product(0, new int[] {3}, new int[] {1}, new int[] {2, 2});
         product(0, new int[] {3}, new int[] {2, 1}, new int[] {2, 2, 2});
@@ -316,6 +330,18 @@ public final class EdgesOfCountsTest {
         product(1, EIGHT_ONES, new int[] {2, 2, 2, 2, 2, 2, 2, 2}, new int[] {3, 3, 3, 3, 3, 3, 3, 3});
         product(1, new int[] {8, 8}, new int[] {8}, new int[] {8, 8, 8});
         product(24, new int[] {5, 3, 2, 1}, new int[] {4, 3, 2, 1}, new int[] {6, 5, 4, 3, 2, 1});
+        // These were counted by another way: the product as a sum of products by rows.
+        product(2, new int[] {4, 4, 2, 1, 1}, new int[] {8, 2, 2}, new int[] {11, 4, 3, 3, 1, 1, 1});
+        product(3, new int[] {4, 4, 2, 2}, new int[] {3, 3, 3, 1}, new int[] {6, 5, 3, 3, 2, 2, 1});
+        product(3, new int[] {4, 4, 1, 1}, new int[] {7, 5, 1}, new int[] {10, 7, 3, 1, 1, 1});
+        product(4, new int[] {4, 4, 2}, new int[] {5, 3, 2, 2, 2}, new int[] {6, 5, 4, 4, 2, 2, 1});
+        product(5, new int[] {9, 3, 1}, new int[] {6, 2, 2}, new int[] {13, 4, 3, 2, 1});
+        product(6, new int[] {6, 3, 2, 1, 1, 1}, new int[] {3, 2, 2, 2}, new int[] {8, 4, 3, 3, 2, 1, 1, 1});
+        product(7, new int[] {6, 3, 2, 1, 1, 1}, new int[] {3, 2, 2, 2}, new int[] {7, 4, 3, 3, 2, 2, 1, 1});
+        product(8, new int[] {4, 2, 1, 1}, new int[] {9, 2, 2, 1, 1}, new int[] {11, 4, 3, 2, 1, 1, 1});
+        product(9, new int[] {5, 3, 3, 2}, new int[] {5, 3, 1}, new int[] {8, 5, 4, 3, 2});
+        product(11, new int[] {5, 3, 3, 2}, new int[] {5, 3, 1}, new int[] {7, 5, 4, 3, 2, 1});
+        product(0, new int[] {4, 4, 2}, new int[] {5, 3, 2, 2, 2}, new int[] {12, 7, 3, 2});
         product(0, new int[] {23}, new int[] {1}, new int[] {22, 2});
         product(1, new int[] {23}, new int[] {1}, new int[] {23, 1});
     }
@@ -441,6 +467,8 @@ public final class EdgesOfCountsTest {
         character(1, new int[] {14}, hook);
         character(2, new int[] {2, 2, 2, 2, 2, 2, 2}, new int[] {7, 7});
         character(-35, new int[] {7, 7}, new int[] {2, 2, 2, 2, 2, 2, 2});
+        character(210, new int[] {6, 4, 2, 2}, new int[] {2, 2, 2, 2, 2, 2, 2});
+        character(-210, new int[] {4, 4, 2, 2, 1, 1}, new int[] {2, 2, 2, 2, 2, 2, 2});
         character(1, new int[] {14}, new int[] {2, 2, 2, 2, 2, 2, 1, 1});
         character(-1, EIGHT_ONES, new int[] {8});
         character(1, EIGHT_ONES, EIGHT_ONES);

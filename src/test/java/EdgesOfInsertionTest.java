@@ -31,6 +31,7 @@ public final class EdgesOfInsertionTest {
     private static void promises() {
         Checks.sentence("11: the number of rows of P", EdgesOfInsertionTest::numbersOfRows);
         Checks.sentence("11: Q is there then", EdgesOfInsertionTest::qIsThere);
+        Checks.sentence("12: The letter of P (q is false) or Q at a box", EdgesOfInsertionTest::lettersAtBoxes);
         Checks.sentence("12: 0 when there is no such box", EdgesOfInsertionTest::noSuchBox);
         Checks.sentence("12: or Q is away", EdgesOfInsertionTest::entriesOfQAway);
         Checks.sentence("13: The word becomes the one that, inserted by rows, gives P and Q", EdgesOfInsertionTest::recovers);
@@ -221,6 +222,19 @@ public final class EdgesOfInsertionTest {
             Checks.same("Q is there again", x.entry(true, 0, 0), 1);
             x.recover(1);
             Checks.same("what is recovered", Checks.word(x, 1), "6");
+        }
+    }
+
+    private static void lettersAtBoxes() {
+        TableauBench x = with(3, 1, 2, 2, 1, 4, 1);
+        x.insert(0, false);
+        int[][] p = {{1, 1, 1, 4}, {2, 2}, {3}};
+        int[][] q = {{1, 3, 4, 6}, {2, 7}, {5}};
+        for (int r = 0; r < 3; r++) {
+            for (int c = 0; c < p[r].length; c++) {
+                Checks.same("P at " + r + ", " + c, x.entry(false, r, c), p[r][c]);
+                Checks.same("Q at " + r + ", " + c, x.entry(true, r, c), q[r][c]);
+            }
         }
     }
 
