@@ -73,9 +73,16 @@ public final class FaceTest {
             }
         }
         Checks.same("the methods", got.toString(), face().toString());
-        for (Method m : TableauBench.class.getDeclaredMethods()) {
+        noHiddenNamesake(TableauBench.class, open);
+        for (Class<?> inside : TableauBench.class.getDeclaredClasses()) {
+            noHiddenNamesake(inside, open);
+        }
+    }
+
+    private static void noHiddenNamesake(Class<?> holder, Set<String> open) {
+        for (Method m : holder.getDeclaredMethods()) {
             boolean hidden = Modifier.isPrivate(m.getModifiers());
-            Checks.same("a hidden " + m.getName(), hidden && open.contains(m.getName()), false);
+            Checks.same("a hidden " + m.getName() + " in " + holder.getName(), hidden && open.contains(m.getName()), false);
         }
     }
 
